@@ -276,6 +276,7 @@ public final class PathOram {
                 stashValue[b] = slotValue[slot];
                 inStash[b] = true;
                 slotBlock[slot] = EMPTY;
+                slotValue[slot] = 0;
             }
         }
     }
@@ -288,6 +289,8 @@ public final class PathOram {
             if (inStash[b] && bucketAt(leafOf[b], level) == bucket) {
                 slotBlock[slot] = b;
                 slotValue[slot] = stashValue[b];
+                // No copy stays behind: a block has one home, and its value lies there alone.
+                stashValue[b] = 0;
                 inStash[b] = false;
                 slot++;
             }
