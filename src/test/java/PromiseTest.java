@@ -1,13 +1,5 @@
-/** One section for each promise of the document: ordinary inputs, its edges, wrong inputs. */
-public final class PromiseTest {
-    private static final int MIN = Integer.MIN_VALUE;
-    private static final int MAX = Integer.MAX_VALUE;
-    private static final int[] BAD_BLOCKS = {-1, 16, 17, -16, 31, MIN, MAX};
-    private static final int[] BAD_SNAPSHOTS = {-1, 2, 3, 16, MIN, MAX};
-    private static final int[] SEEDS = {0, 1, -1, 7, 16, 12345, MIN, MAX};
-
-    private static int wrong = 0;
-
+/** One section for each promise of the document, mostly ordinary inputs; BoundaryTest has the edges. */
+public final class PromiseTest extends Checks {
     public static void main(String[] args) {
         promise1NewObject();
         promise2Stir();
@@ -28,32 +20,7 @@ public final class PromiseTest {
         promise17Audit();
         promise18Touched();
         promise19RefusedCallsAccessNothing();
-        System.out.println(wrong == 0 ? "all answers are as due" : wrong + " answers are not as due");
-        if (wrong != 0) {
-            System.exit(1);
-        }
-    }
-
-    private static void due(String call, int got, int want) {
-        if (got != want) {
-            wrong++;
-            System.out.println(call + " answered " + got + ", due is " + want);
-        }
-    }
-
-    private static void dueBlocks(String when, PathOram x, int... want) {
-        for (int b = 0; b < 16; b++) {
-            due(when + ": read(" + b + ")", x.read(b), want[b]);
-        }
-        due(when + ": audit()", x.audit(), 0);
-    }
-
-    private static int[] series(int value, int step) {
-        int[] values = new int[16];
-        for (int b = 0; b < 16; b++) {
-            values[b] = value + b * step;
-        }
-        return values;
+        end();
     }
 
     /** Block b holds 100 + b. */
@@ -63,15 +30,8 @@ public final class PromiseTest {
         return x;
     }
 
-    private static PathOram holding(int... values) {
-        PathOram x = new PathOram(-3);
-        for (int b = 0; b < 16; b++) {
-            due("write(" + b + ", " + values[b] + ")", x.write(b, values[b]), 0);
-        }
-        return x;
-    }
-
     private static void promise1NewObject() {
+        sentence("Promise 1");
         for (int seed : SEEDS) {
             PathOram x = new PathOram(seed);
             due("new: touched()", x.touched(), 0);
@@ -87,6 +47,7 @@ public final class PromiseTest {
     }
 
     private static void promise2Stir() {
+        sentence("Promise 2");
         for (int seed : SEEDS) {
             PathOram x = new PathOram(2);
             x.stir(seed);
@@ -107,6 +68,7 @@ public final class PromiseTest {
     }
 
     private static void promise3Read() {
+        sentence("Promise 3");
         PathOram x = filled();
         dueBlocks("read", x, series(100, 1));
         for (int b : BAD_BLOCKS) {
@@ -116,6 +78,7 @@ public final class PromiseTest {
     }
 
     private static void promise4Write() {
+        sentence("Promise 4");
         PathOram x = filled();
         due("write(0, MIN)", x.write(0, MIN), 0);
         due("write(15, MAX)", x.write(15, MAX), 0);
@@ -132,6 +95,7 @@ public final class PromiseTest {
     }
 
     private static void promise5Add() {
+        sentence("Promise 5");
         PathOram x = filled();
         due("add(0, 5)", x.add(0, 5), 105);
         due("add(15, -200)", x.add(15, -200), -85);
@@ -151,6 +115,7 @@ public final class PromiseTest {
     }
 
     private static void promise6Exchange() {
+        sentence("Promise 6");
         PathOram x = filled();
         due("exchange(0, 15)", x.exchange(0, 15), 0);
         due("exchange(9, 2)", x.exchange(9, 2), 0);
@@ -169,6 +134,7 @@ public final class PromiseTest {
     }
 
     private static void promise7Copy() {
+        sentence("Promise 7");
         PathOram x = filled();
         due("copy(0, 15)", x.copy(0, 15), 0);
         due("copy(9, 2)", x.copy(9, 2), 0);
@@ -185,6 +151,7 @@ public final class PromiseTest {
     }
 
     private static void promise8Fill() {
+        sentence("Promise 8");
         PathOram x = filled();
         due("fill(3, 4, 10, -7)", x.fill(3, 4, 10, -7), 0);
         due("fill(15, 1, 1, 9)", x.fill(15, 1, 1, 9), 0);
@@ -224,6 +191,7 @@ public final class PromiseTest {
     }
 
     private static void promise9Rotate() {
+        sentence("Promise 9");
         int[] shifts = {0, 1, -1, 3, 8, 15, 16, -15, -16, -17, 17, 32, 1000, -1001,
             MIN, MIN + 1, MIN + 9, MAX, MAX - 1, MAX - 9};
         for (int shift : shifts) {
@@ -238,6 +206,7 @@ public final class PromiseTest {
     }
 
     private static void promise10Sum() {
+        sentence("Promise 10");
         due("new: sum()", new PathOram(1).sum(), 0);
         PathOram x = filled();
         due("sum()", x.sum(), 1720);
@@ -253,6 +222,7 @@ public final class PromiseTest {
     }
 
     private static void promise11Find() {
+        sentence("Promise 11");
         PathOram x = holding(4, 7, 4, MIN, 9, 9, 9, 0, -1, 4, 1, 2, 3, MAX, 9, 7);
         due("find(4, 0)", x.find(4, 0), 0);
         due("find(4, 1)", x.find(4, 1), 2);
@@ -273,6 +243,7 @@ public final class PromiseTest {
     }
 
     private static void promise12Below() {
+        sentence("Promise 12");
         PathOram x = holding(4, 7, 4, MIN, 9, 9, 9, 0, -1, 4, 1, 2, 3, MAX, 9, 7);
         due("below(MIN)", x.below(MIN), 0);
         due("below(MIN + 1)", x.below(MIN + 1), 1);
@@ -289,6 +260,7 @@ public final class PromiseTest {
     }
 
     private static void promise13Ranked() {
+        sentence("Promise 13");
         PathOram x = holding(4, 7, 4, MIN, 9, 9, 9, 0, -1, 4, 1, 2, 3, MAX, 9, 7);
         int[] want = {MIN, -1, 0, 1, 2, 3, 4, 4, 4, 7, 7, 9, 9, 9, 9, MAX};
         for (int k = 0; k < 16; k++) {
@@ -308,6 +280,7 @@ public final class PromiseTest {
     }
 
     private static void promise14Save() {
+        sentence("Promise 14");
         PathOram x = filled();
         due("save(0)", x.save(0), 0);
         x.write(0, 1);
@@ -330,6 +303,7 @@ public final class PromiseTest {
     }
 
     private static void promise15Load() {
+        sentence("Promise 15");
         PathOram x = filled();
         x.save(1);
         due("load(1) unchanged", x.load(1), 0);
@@ -352,6 +326,7 @@ public final class PromiseTest {
     }
 
     private static void promise16Differing() {
+        sentence("Promise 16");
         PathOram x = filled();
         due("differing(0)", x.differing(0), 16);
         due("differing(1)", x.differing(1), 16);
@@ -371,6 +346,7 @@ public final class PromiseTest {
     }
 
     private static void promise17Audit() {
+        sentence("Promise 17");
         for (int seed : SEEDS) {
             PathOram x = new PathOram(seed);
             for (int i = 0; i < 60; i++) {
@@ -381,79 +357,24 @@ public final class PromiseTest {
         }
     }
 
-    private interface Call {
-        int on(PathOram x);
-    }
-
     private static void promise18Touched() {
-        dueAccess("read", x -> x.read(0));
-        dueAccess("write", x -> x.write(15, 0));
-        dueAccess("add", x -> x.add(3, 0));
-        dueAccess("exchange", x -> x.exchange(1, 2));
-        dueAccess("exchange with itself", x -> x.exchange(4, 4));
-        dueAccess("copy", x -> x.copy(1, 2));
-        dueAccess("copy onto itself", x -> x.copy(4, 4));
-        dueAccess("fill", x -> x.fill(0, 16, 0, 0));
-        dueAccess("fill of one", x -> x.fill(15, 1, 0, 0));
-        dueAccess("rotate", x -> x.rotate(1));
-        dueAccess("rotate by 0", x -> x.rotate(0));
-        dueAccess("rotate by 16", x -> x.rotate(16));
-        dueAccess("sum", x -> x.sum());
-        dueAccess("find", x -> x.find(0, 0));
-        dueAccess("find at the end", x -> x.find(0, 15));
-        dueAccess("find of none", x -> x.find(1, 0));
-        dueAccess("below", x -> x.below(0));
-        dueAccess("ranked", x -> x.ranked(0));
-        dueAccess("save", x -> x.save(0));
-        dueAccess("load", x -> x.load(1));
-        dueAccess("differing", x -> x.differing(1));
-    }
-
-    private static void dueAccess(String name, Call call) {
+        sentence("Promise 18");
         PathOram x = new PathOram(11);
-        due("before " + name + ": touched()", x.touched(), 0);
-        call.on(x);
-        due("after " + name + ": touched()", x.touched(), 4);
-        due("after touched: touched()", x.touched(), 4);
+        due("new: touched()", x.touched(), 0);
+        x.write(3, 4);
+        due("touched() after write", x.touched(), 4);
+        x.fill(0, 16, 1, 1);
+        due("touched() after fill", x.touched(), 4);
+        x.sum();
+        due("touched() after sum", x.touched(), 4);
         x.audit();
-        due("after audit: touched()", x.touched(), 4);
-        x.stir(3);
-        due("after stir: touched()", x.touched(), 4);
-        call.on(x);
-        due("after two of " + name + ": touched()", x.touched(), 4);
+        due("touched() after audit", x.touched(), 4);
     }
 
     private static void promise19RefusedCallsAccessNothing() {
-        for (int b : BAD_BLOCKS) {
-            dueNoAccess("read", x -> x.read(b));
-            dueNoAccess("write", x -> x.write(b, 1));
-            dueNoAccess("add", x -> x.add(b, 1));
-            dueNoAccess("exchange, first", x -> x.exchange(b, 1));
-            dueNoAccess("exchange, second", x -> x.exchange(1, b));
-            dueNoAccess("copy, from", x -> x.copy(b, 1));
-            dueNoAccess("copy, to", x -> x.copy(1, b));
-            dueNoAccess("fill", x -> x.fill(b, 1, 1, 1));
-            dueNoAccess("find", x -> x.find(0, b));
-            dueNoAccess("ranked", x -> x.ranked(b));
-        }
-        for (int count : new int[] {0, -1, 17, MIN, MAX}) {
-            dueNoAccess("fill, count", x -> x.fill(0, count, 1, 1));
-        }
-        for (int snapshot : BAD_SNAPSHOTS) {
-            dueNoAccess("save", x -> x.save(snapshot));
-            dueNoAccess("load", x -> x.load(snapshot));
-            dueNoAccess("differing", x -> x.differing(snapshot));
-        }
-        dueNoAccess("audit", x -> x.audit());
-    }
-
-    private static void dueNoAccess(String name, Call call) {
-        PathOram x = new PathOram(11);
-        call.on(x);
-        due("new, after " + name + " that is no access: touched()", x.touched(), 0);
-        x.fill(0, 16, 100, 1);
-        call.on(x);
-        due("used, after " + name + " that is no access: touched()", x.touched(), 4);
-        dueBlocks("after " + name + " that is no access", x, series(100, 1));
+        sentence("Promise 19");
+        dueRefused("read(16)", x -> x.read(16), 0);
+        dueRefused("add(16, 1)", x -> x.add(16, 1), 0);
+        dueRefused("ranked(16)", x -> x.ranked(16), 0);
     }
 }
