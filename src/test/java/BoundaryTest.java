@@ -73,15 +73,19 @@ public final class BoundaryTest extends Checks {
 
     private static void seedOfANewObjectIsAnyInt() {
         sentence("Promise 1: seed (any int) starts the inner shuffling; no answer of any call depends on it");
-        String want = answers(new PathOram(0), () -> { });
         for (int bit = 0; bit < 32; bit++) {
-            dueSame("seed 1 << " + bit, answers(new PathOram(1 << bit), () -> { }), want);
-            dueSame("seed ~(1 << " + bit + ")", answers(new PathOram(~(1 << bit)), () -> { }), want);
+            dueAnySeed(1 << bit);
+            dueAnySeed(~(1 << bit));
         }
         for (int seed : SEEDS) {
-            dueSame("seed " + seed, answers(new PathOram(seed), () -> { }), want);
-            dueNewState("seed " + seed, new PathOram(seed), 0);
+            dueAnySeed(seed);
         }
+    }
+
+    private static void dueAnySeed(int seed) {
+        String want = answers(new PathOram(0), () -> { });
+        dueSame("seed " + seed, answers(new PathOram(seed), () -> { }), want);
+        dueNewState("seed " + seed, new PathOram(seed), 0);
     }
 
     private static void seedOfStirIsAnyInt() {
