@@ -18,19 +18,31 @@ abstract class Checks {
         int on(PathOram x);
     }
 
+    // One broken sentence can make thousands of answers wrong: the first ones tell enough.
+    private static final int SHOWN_PER_SENTENCE = 20;
+
     private static String current = "";
+    private static int shown = 0;
     private static int wrong = 0;
 
     /** Names what the answers that follow belong to. */
     static void sentence(String words) {
         current = words;
+        shown = 0;
     }
 
     static void due(String call, int got, int want) {
         if (got != want) {
             wrong++;
-            System.out.println("[" + current + "] " + call + " answered " + got + ", due is " + want);
+            show("[" + current + "] " + call + " answered " + got + ", due is " + want);
         }
+    }
+
+    private static void show(String line) {
+        if (shown < SHOWN_PER_SENTENCE) {
+            System.out.println(line);
+        }
+        shown++;
     }
 
     static void end() {
