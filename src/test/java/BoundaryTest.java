@@ -201,13 +201,17 @@ public final class BoundaryTest extends Checks {
 
     private static void exchangeWithABadBlock() {
         sentence("Promise 6: -1 if b or c is not good");
+        dueBadPairsRefused("exchange", PathOram::exchange);
+    }
+
+    private static void dueBadPairsRefused(String name, PairCall call) {
         for (int bad : BAD_BLOCKS) {
             for (int good : new int[] {0, 15}) {
-                dueRefused("exchange(" + bad + ", " + good + ")", x -> x.exchange(bad, good), -1);
-                dueRefused("exchange(" + good + ", " + bad + ")", x -> x.exchange(good, bad), -1);
+                dueRefused(name + "(" + bad + ", " + good + ")", x -> call.on(x, bad, good), -1);
+                dueRefused(name + "(" + good + ", " + bad + ")", x -> call.on(x, good, bad), -1);
             }
             for (int other : BAD_BLOCKS) {
-                dueRefused("exchange(" + bad + ", " + other + ")", x -> x.exchange(bad, other), -1);
+                dueRefused(name + "(" + bad + ", " + other + ")", x -> call.on(x, bad, other), -1);
             }
         }
     }
@@ -226,15 +230,7 @@ public final class BoundaryTest extends Checks {
 
     private static void copyWithABadBlock() {
         sentence("Promise 7: -1 if from or to is not good");
-        for (int bad : BAD_BLOCKS) {
-            for (int good : new int[] {0, 15}) {
-                dueRefused("copy(" + bad + ", " + good + ")", x -> x.copy(bad, good), -1);
-                dueRefused("copy(" + good + ", " + bad + ")", x -> x.copy(good, bad), -1);
-            }
-            for (int other : BAD_BLOCKS) {
-                dueRefused("copy(" + bad + ", " + other + ")", x -> x.copy(bad, other), -1);
-            }
-        }
+        dueBadPairsRefused("copy", PathOram::copy);
     }
 
     private static void fillOfEveryGoodRange() {

@@ -30,6 +30,14 @@ public final class PromiseTest extends Checks {
         return x;
     }
 
+    private static void dueBadPairs(String name, PathOram x, PairCall call) {
+        for (int b : BAD_BLOCKS) {
+            due(name + "(" + b + ", 1)", call.on(x, b, 1), -1);
+            due(name + "(1, " + b + ")", call.on(x, 1, b), -1);
+            due(name + "(" + b + ", " + b + ")", call.on(x, b, b), -1);
+        }
+    }
+
     private static void promise1NewObject() {
         sentence("Promise 1");
         for (int seed : SEEDS) {
@@ -120,11 +128,7 @@ public final class PromiseTest extends Checks {
         due("exchange(0, 15)", x.exchange(0, 15), 0);
         due("exchange(9, 2)", x.exchange(9, 2), 0);
         due("exchange(7, 7)", x.exchange(7, 7), 0);
-        for (int b : BAD_BLOCKS) {
-            due("exchange(" + b + ", 1)", x.exchange(b, 1), -1);
-            due("exchange(1, " + b + ")", x.exchange(1, b), -1);
-            due("exchange(" + b + ", " + b + ")", x.exchange(b, b), -1);
-        }
+        dueBadPairs("exchange", x, PathOram::exchange);
         int[] want = series(100, 1);
         want[0] = 115;
         want[15] = 100;
@@ -139,11 +143,7 @@ public final class PromiseTest extends Checks {
         due("copy(0, 15)", x.copy(0, 15), 0);
         due("copy(9, 2)", x.copy(9, 2), 0);
         due("copy(7, 7)", x.copy(7, 7), 0);
-        for (int b : BAD_BLOCKS) {
-            due("copy(" + b + ", 1)", x.copy(b, 1), -1);
-            due("copy(1, " + b + ")", x.copy(1, b), -1);
-            due("copy(" + b + ", " + b + ")", x.copy(b, b), -1);
-        }
+        dueBadPairs("copy", x, PathOram::copy);
         int[] want = series(100, 1);
         want[15] = 100;
         want[2] = 109;

@@ -18,6 +18,10 @@ abstract class Checks {
         int on(PathOram x);
     }
 
+    interface PairCall {
+        int on(PathOram x, int one, int other);
+    }
+
     // One broken sentence can make thousands of answers wrong: the first ones tell enough.
     private static final int SHOWN_PER_SENTENCE = 20;
 
