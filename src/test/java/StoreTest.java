@@ -80,15 +80,44 @@ public final class StoreTest {
         due("audit() with the block in place again", x.audit(), 0);
     }
 
+    /** Every block fits the root, so after an access none waits in the stash beside an empty root slot. */
+    private static void dueTidy(String when, PathOram x) throws ReflectiveOperationException {
+        int[] slotBlock = (int[]) inner(x, "slotBlock");
+        int[] slotValue = (int[]) inner(x, "slotValue");
+        boolean[] inStash = (boolean[]) inner(x, "inStash");
+        int[] stashValue = (int[]) inner(x, "stashValue");
+        int waiting = 0;
+        for (int b = 0; b < inStash.length; b++) {
+            waiting += inStash[b] ? 1 : 0;
+            due(when + ": a value left in the stash", inStash[b] ? 0 : stashValue[b], 0);
+        }
+        for (int slot = 0; slot < slotBlock.length; slot++) {
+            boolean empty = slotBlock[slot] == EMPTY;
+            due(when + ": a value left in slot " + slot, empty ? slotValue[slot] : 0, 0);
+            due(when + ": blocks that the root did not take", empty && slot < SLOTS_PER_BUCKET ? waiting : 0, 0);
+        }
+    }
+
     private static void accessesMoveBlocksIntoTheTree() throws ReflectiveOperationException {
-        PathOram x = used();
-        int held = 0;
-        for (int block : (int[]) inner(x, "slotBlock")) {
-            held += block == EMPTY ? 0 : 1;
+        for (int seed = -20; seed < 20; seed++) {
+            PathOram x = new PathOram(seed);
+            x.read(seed & 15);
+            dueTidy("read on a new object", x);
+            for (int i = 0; i < 100; i++) {
+                x.write(i * 7 & 15, i + 1);
+                dueTidy("write " + i, x);
+                x.read(i * 5 & 15);
+                dueTidy("read " + i, x);
+            }
         }
-        if (held < 8) {
-            due("the number of blocks in the tree, few", held, 8);
-        }
+    }
+
+    private static void seedStartsTheShuffling() throws ReflectiveOperationException {
+        int[] leaves = (int[]) inner(new PathOram(77), "leafOf");
+        int[] same = (int[]) inner(new PathOram(77), "leafOf");
+        int[] other = (int[]) inner(new PathOram(78), "leafOf");
+        due("the same seed gives the same first leaves", Arrays.equals(leaves, same) ? 1 : 0, 1);
+        due("another seed gives others", Arrays.equals(leaves, other) ? 1 : 0, 0);
     }
 
     private static void accessesDrawNewLeaves() throws ReflectiveOperationException {
@@ -123,6 +152,7 @@ public final class StoreTest {
         auditCountsBlocksHeldTwice();
         auditCountsBlocksOutOfPlace();
         accessesMoveBlocksIntoTheTree();
+        seedStartsTheShuffling();
         accessesDrawNewLeaves();
         stirStartsTheShufflingAnew();
         System.out.println(wrong == 0 ? "the store is as due" : wrong + " things in the store are not as due");
