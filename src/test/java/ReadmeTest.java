@@ -4,8 +4,13 @@ import java.nio.file.Files;
 import java.nio.file.Path;
 import java.nio.file.attribute.PosixFilePermission;
 import java.util.ArrayList;
+import java.util.Arrays;
 import java.util.Comparator;
 import java.util.List;
+import java.util.Map;
+import java.util.Set;
+import java.util.TreeMap;
+import java.util.TreeSet;
 import java.util.regex.Matcher;
 import java.util.regex.Pattern;
 import java.util.stream.Stream;
@@ -14,8 +19,12 @@ import java.util.stream.Stream;
 public final class ReadmeTest {
     private static final String PROGRAM = "src/main/java/PathOram.java";
     private static final Pattern PRINTS = Pattern.compile("System\\.out\\.println\\(.*// prints (-?\\d+)\\b");
-    private static final Pattern TABLE_CALL = Pattern.compile("^\\| `(\\w+)\\(([^)]*)\\)` \\|", Pattern.MULTILINE);
+    // A row of the table: a method's name, its arguments, and the answer of a refused call or "never".
+    private static final Pattern ROW = Pattern.compile("^\\| `(\\w+)\\(([^)]*)\\)` \\|.*\\| (-?\\d+|never)\\b[^|]*\\|$",
+        Pattern.MULTILINE);
     private static final Pattern NAMED_FILE = Pattern.compile("`((?:src|\\.\\./shared)/[\\w./]+)`");
+
+    private static final Set<String> NO_ACCESS = Set.of("stir", "audit", "touched");
 
     private static int wrong = 0;
 
@@ -75,23 +84,43 @@ public final class ReadmeTest {
         }
     }
 
-    private static void checkTable(String readme, String example) {
-        List<String> told = new ArrayList<>();
-        Matcher matcher = TABLE_CALL.matcher(readme);
-        while (matcher.find()) {
-            int count = matcher.group(2).isEmpty() ? 0 : matcher.group(2).split(",").length;
-            told.add(matcher.group(1) + "/" + count);
+    private static List<Method> openMethods() {
+        List<Method> methods = new ArrayList<>(List.of(PathOram.class.getMethods()));
+        methods.removeIf(method -> method.getDeclaringClass() != PathOram.class);
+        return methods;
+    }
+
+    private static void checkTable(String readme, String example) throws ReflectiveOperationException {
+        Map<String, String> refusals = new TreeMap<>();
+        Matcher row = ROW.matcher(readme);
+        while (row.find()) {
+            int count = row.group(2).isEmpty() ? 0 : row.group(2).split(",").length;
+            refusals.put(row.group(1) + "/" + count, row.group(3));
         }
-        List<String> there = new ArrayList<>();
-        for (Method method : PathOram.class.getMethods()) {
-            if (method.getDeclaringClass() == PathOram.class) {
-                there.add(method.getName() + "/" + method.getParameterCount());
-                hold(example.contains("oram." + method.getName() + "("), "the example uses " + method.getName());
-            }
+        Set<String> methods = new TreeSet<>();
+        for (Method method : openMethods()) {
+            String name = method.getName() + "/" + method.getParameterCount();
+            methods.add(name);
+            checkRefusal(method, refusals.get(name));
+            hold(example.contains("oram." + method.getName() + "("), "the example uses " + method.getName());
         }
-        told.sort(null);
-        there.sort(null);
-        hold(told.equals(there), "the table has the methods " + there + "; it has " + told);
+        hold(refusals.keySet().equals(methods), "the table has " + methods + "; it has " + refusals.keySet());
+    }
+
+    /** With -1 for every argument, each call that can be refused is; touched() tells whether it was. */
+    private static void checkRefusal(Method method, String refusal) throws ReflectiveOperationException {
+        Object[] arguments = new Object[method.getParameterCount()];
+        Arrays.fill(arguments, -1);
+        PathOram oram = new PathOram(1);
+        String answer = String.valueOf(method.invoke(oram, arguments));
+        boolean accessed = oram.touched() != 0;
+        String name = method.getName();
+        if ("never".equals(refusal)) {
+            hold(accessed || NO_ACCESS.contains(name), name + " is never refused");
+        } else {
+            boolean refused = !accessed && answer.equals(refusal);
+            hold(refused, name + " answers " + refusal + " if refused; it answers " + answer);
+        }
     }
 
     private static void checkNamedFiles(String readme) throws IOException {
@@ -109,11 +138,11 @@ public final class ReadmeTest {
     // CI calls .ci/run on a clean checkout: what is left to see here is that README.md names just that.
     private static void checkWayToRunTests(String command) throws IOException {
         hold(command.equals(".ci/run\n"), "the tests are run with .ci/run; README.md says " + command);
-        boolean executable = Files.getPosixFilePermissions(Path.of(".ci/run")).contains(PosixFilePermission.OWNER_EXECUTE);
-        hold(executable, ".ci/run is executable");
+        Set<PosixFilePermission> permissions = Files.getPosixFilePermissions(Path.of(".ci/run"));
+        hold(permissions.contains(PosixFilePermission.OWNER_EXECUTE), ".ci/run is executable");
     }
 
-    public static void main(String[] args) throws IOException, InterruptedException {
+    public static void main(String[] args) throws Exception {
         String readme = Files.readString(Path.of("README.md"));
         List<String> programs = blocks(readme, "java");
         List<String> commands = blocks(readme, "sh");
